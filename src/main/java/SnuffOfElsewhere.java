@@ -8,7 +8,7 @@ public final class SnuffOfElsewhere {
     private static final int NOT_ASKED = -1000, NO_PINCH = -5000, NO_PINCH_WHAT = -7000;
     private static final int FAULT = -100;
 
-    private static final int ALL = 6, SORTS = 8, EVERYWHERE = (1 << SORTS) - 1;
+    private static final int ALL = 6, SORTS = 8;
     private static final int MOST_GRAINS = 9, MOST_MORE = 9, MOST_WIT = 99, LAST_MINUTE = 999;
     private static final int HERE = -1;
     private static final int GENTLEMAN = 0, WIT = 1, LADY = 2, OLD = 3, FOOTMAN = 4, HORN = 5, KINDS = 6;
