@@ -157,6 +157,7 @@ public final class PromiseTests {
     fault("gone 1 gains", 7);
     fault("gone 1 ; gains 1 ; spills 1", 27);
     fault("gone 1 ; gains 1 ; spills 1 ; gone", 30);
+    fault("gone 1 ; gains 1 ; spills 1 ; 2", 30);
     fault("gone 1 ; gains 1 ; spills 1 ; \t", 30);
     fault("goner 1 ;", 0);
     fault("hone 1 ;", 0);
@@ -198,6 +199,18 @@ public final class PromiseTests {
     stands("gone 1 ; gains not 1 and not 1 or not 1 ; spills 1 < 2 and 2 < 3 ;");
     p05Open();
     p05Full();
+    p05Stale();
+  }
+
+  // What an earlier text left behind the end is no part of a later one.
+  private static void p05Stale() {
+    SnuffOfElsewhere x = new SnuffOfElsewhere();
+    due("gonex", text(x, "gonex"), -100);
+    due("gone", text(x, "gone"), -104);
+    due("gone 12345", text(x, "gone 12345"), -105);
+    due("gone 1234", text(x, "gone 1234"), -109);
+    due("gone 1", text(x, "gone 1"), -106);
+    due("none", x.text(), -100);
   }
 
   private static void p05Open() {
@@ -998,6 +1011,8 @@ public final class PromiseTests {
     due("by the last", x.laws(0, 3, 0), 0b100);
     row(x, 3, 1, 1);
     due("by none", x.laws(0, 3, 0), 0);
+    row(x, 3, 1);
+    due("by all there are", x.laws(0, 3, 0), 0b111);
     x.force(2);
     due("whichever is the law", x.laws(0, 1, 0), 0b011);
     due("the law stays", x.count(4), 2);
@@ -1020,6 +1035,13 @@ public final class PromiseTests {
     due("in thought", x.told(1, 8), 0);
     due("over a sheet", x.film(0, 1, 1), 5);
     due("over a sheet", x.judge(0, 1, 1), -1);
+    row(x, 2, 2);
+    due("none", x.film(2, 3, 0), 0);
+    x.sheet(2, 0, 40);
+    due("40 minutes", x.film(2, 3, 1), 40);
+    due("40 minutes", x.judge(2, 3, 1), -1);
+    due("40 minutes", x.cell(3, 39, 1), 1);
+    due("the last minute", x.judge(2, 3, 1), 39);
     row(x, 2, 2);
     due("none", x.film(2, 3, 0), 0);
     due("a row of none", x.cell(3, 0, 0), -12);
@@ -1165,6 +1187,8 @@ public final class PromiseTests {
     due("all 0", x.evening(3, 0), 5);
     due("all 0", x.evening(3, 20), 1);
     x.cell(3, 5, 3);
+    due("anew", x.sheet(3, 2, 40), 1);
+    x.cell(3, 0, 4);
     due("anew", x.sheet(3, 2, 40), 1);
     due("all 0 again", x.evening(3, 20), 1);
     due("none", x.sheet(3, 1, 0), 1);
