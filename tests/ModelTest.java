@@ -644,49 +644,6 @@ public final class ModelTest {
     return bits;
   }
 
-  // ---- the class
-
-  static long answer(SnuffOfElsewhere x, String name, int[] a) {
-    switch (name) {
-      case "count": return x.count(a[0]);
-      case "clock": return x.clock(a[0]);
-      case "feed": return x.feed(a[0], a[1], a[2], a[3], a[4], a[5]);
-      case "text": return x.text();
-      case "force": return x.force(a[0]);
-      case "asks": return x.asks(a[0], a[1], a[2]);
-      case "gentleman": return x.gentleman(a[0], a[1]);
-      case "put": return x.put(a[0], a[1], a[2]);
-      case "told": return x.told(a[0], a[1]);
-      case "pinches": return x.pinches(a[0], a[1], a[2]);
-      case "pinch": return x.pinch(a[0], a[1]);
-      case "give": return x.give(a[0], a[1], a[2]);
-      case "minute": return x.minute();
-      case "room": return x.room(a[0]);
-      case "evening": return x.evening(a[0], a[1]);
-      case "spend": return x.spend(a[0]);
-      case "plan": return x.plan(a[0], a[1], a[2]);
-      case "which": return x.which(a[0], a[1]);
-      case "tour": return x.tour(a[0], a[1]);
-      case "share": return x.share(a[0], a[1]);
-      case "box": return x.box(a[0], a[1]);
-      case "judge": return x.judge(a[0], a[1], a[2]);
-      case "kinds": return x.kinds(a[0], a[1], a[2], a[3]);
-      case "states": return x.states(a[0], a[1], a[2], a[3], a[4]);
-      case "whose": return x.whose(a[0], a[1]);
-      case "laws": return x.laws(a[0], a[1], a[2]);
-      case "film": return x.film(a[0], a[1], a[2]);
-      case "drawn": return x.drawn(a[0], a[1], a[2]);
-      case "odds": return x.odds(a[0], a[1], a[2], a[3]);
-      case "image": return x.image();
-      case "back": return x.back();
-      case "sheet": return x.sheet(a[0], a[1], a[2]);
-      case "cell": return x.cell(a[0], a[1], a[2]);
-      case "copy": return x.copy(a[0], a[1], a[2], a[3], a[4]);
-      case "setBy": return x.setBy(a[0], a[1], a[2], a[3]);
-      default: return x.taken(a[0], a[1]);
-    }
-  }
-
   // ---- calls by lots
 
   // The most that each argument is, mostly; below 0 and above now and then.
@@ -778,7 +735,7 @@ public final class ModelTest {
   void both(String name, int... a) {
     if (!same || calls++ >= CALLS) return;
     long due = call(name, a);
-    long got = answer(x, name, a);
+    long got = Checks.answer(x, name, a);
     log.append(name).append(Arrays.toString(a)).append(" -> ").append(due).append('\n');
     asked.merge(name + (due >= 0 ? " answered" : due == -1 ? " -1" : " refused"), 1, Integer::sum);
     if (due != got) {

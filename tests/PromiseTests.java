@@ -1,47 +1,5 @@
 // What each promise says, by hand: ordinary calls, the edges that the document names, wrong calls.
-public final class PromiseTests {
-  private static final int BAD = -2, STATE = -3, FULL = -4;
-  private static final long NO = -4611686018427387904L;
-  private static final int MOST = Integer.MAX_VALUE, LEAST = Integer.MIN_VALUE;
-  private static int wrong = 0;
-
-  private static void due(String call, long got, long want) {
-    if (got != want) { wrong++; System.out.println(call + " answered " + got + ", due is " + want); }
-  }
-
-  private static SnuffOfElsewhere of(int... kindMoreEach) {
-    SnuffOfElsewhere x = new SnuffOfElsewhere();
-    for (int i = 0; i + 1 < kindMoreEach.length; i += 2) {
-      due("gentleman", x.gentleman(kindMoreEach[i], kindMoreEach[i + 1]), i / 2);
-    }
-    return x;
-  }
-
-  private static void row(SnuffOfElsewhere x, int s, int sort, int... values) {
-    due("sheet", x.sheet(s, sort, values.length), 1);
-    for (int i = 0; i < values.length; i++) due("cell", x.cell(s, i, values[i]), 1);
-  }
-
-  private static int feed(SnuffOfElsewhere x, String bytes) {
-    int size = x.count(5);
-    for (int i = 0; i < bytes.length(); i++) {
-      size = x.feed(1, bytes.charAt(i), 0, 0, 0, 0);
-      due("feed " + i, size, i + 1);
-    }
-    return size;
-  }
-
-  private static int text(SnuffOfElsewhere x, String bytes) {
-    feed(x, bytes);
-    return x.text();
-  }
-
-  // The text becomes the law.
-  private static void law(SnuffOfElsewhere x, String bytes) {
-    int t = text(x, bytes);
-    due(bytes, t < 0 ? t : 0, 0);
-    x.force(t);
-  }
+public final class PromiseTests extends Checks {
 
   // Writes into a sheet what it should hold in bytes, and judges by it.
   private static void tells(String what, SnuffOfElsewhere x, int evening, int told, int p, int... wits) {
@@ -1399,7 +1357,6 @@ public final class PromiseTests {
     p35Copy();
     p36SetBy();
     p37Taken();
-    System.out.println(wrong == 0 ? "all answers are as due" : wrong + " answers are not as due");
-    if (wrong != 0) System.exit(1);
+    end();
   }
 }
