@@ -9,6 +9,7 @@ public final class PromiseBoundaryTests extends Checks {
     SnuffOfElsewhere x = of();
     int[] counts = {0, 0, 0, 1, 0, 0};
     for (int what = 0; what < 6; what++) due("count " + what, x.count(what), counts[what]);
+    due("NONE", SnuffOfElsewhere.NONE, -1);
     for (int what = 0; what < 10; what++) due("room " + what, x.room(what), 0);
     for (int what = 0; what < 14; what++) due("told " + what, x.told(0, what), -5);
     due("box", x.box(0, 0), NO);
@@ -530,6 +531,12 @@ public final class PromiseBoundaryTests extends Checks {
     due("one who is gone", gone.plan(0, 10, 0), 14);
     gone.put(0, 8, 99);
     due("above the bound of wit", gone.plan(0, 60, 0), 84);
+    SnuffOfElsewhere own = of(0, 9, 0, 9, 0, 0, 0, 9);
+    own.put(2, 3, 2);
+    due("one's own grains", own.plan(2, 60, 0), 12);
+    due("one's own grains", own.plan(2, 60, 1), 12);
+    own.put(2, 3, 0);
+    due("one's own grains", own.plan(2, 60, 0), 0);
     says("the most that they GAIN, together (none: 0; what 0), for how few minutes that is as much (1)");
     SnuffOfElsewhere y = of(0, 0, 40, 9);
     due("no grains", y.plan(0, 60, 0), 0);
@@ -615,6 +622,14 @@ public final class PromiseBoundaryTests extends Checks {
     }
     due("none", x.tour(0, 0), 0);
     due("none", x.tour(0, 1), 0);
+    SnuffOfElsewhere own = of(0, 0, 0, 0, 51, 1, 0, 0);
+    due("one's own grains", own.tour(2, 0), 8);
+    due("one's own grains", own.tour(2, 1), 8);
+    for (int sort = 0; sort < 8; sort++) {
+      own = of(0, 9, 0, 9, 51, 9, 0, 9);
+      own.put(2, sort, 0);
+      due("one's own grains", own.tour(2, 0), -1);
+    }
     says("in how many MINUTES (0 .. 200), one taking a PINCH of the first of them each time one is HERE, then a MINUTE passing, one is HERE, and all are of one's SAND");
     SnuffOfElsewhere y = of(0, 1, 20, 9);
     law(y, "gone 25;gains 0;spills 9;");

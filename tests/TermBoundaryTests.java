@@ -212,6 +212,9 @@ public final class TermBoundaryTests extends Checks {
     fault("gone sortsort;", 5);
     fault("gone sort sort;", 10);
     fault("gone s ort;", 5);
+    fault("gone sortz;", 5);
+    fault("gone sorta;", 5);
+    fault("gonez1;", 0);
     fault("gone 1 orand 1;", 7);
     worth("sort+more", 11);
     worth("not0or 0and0", 1);
@@ -410,6 +413,14 @@ public final class TermBoundaryTests extends Checks {
     fault("gone 1 xor 1;", 7);
     fault("gon 1;", 0);
     fault("goned 1;", 0);
+    fault("hone 1;", 0);
+    fault("gonf 1;", 0);
+    fault("gone nort;", 5);
+    // it is no second of what stands ahead of it
+    fault("gone not x 1;", 9);
+    fault("gone -x 1;", 6);
+    fault("gone (x 1;", 6);
+    fault("gone 1;x gains 1;", 7);
     says("a NUMBER that is too long");
     fault("gone 1;gains 12345;", 13);
     fault("gone 1;gains (1+12345);", 16);
@@ -628,10 +639,26 @@ public final class TermBoundaryTests extends Checks {
     }
   }
 
+  private static void allPinches() {
+    says("10 times who, and the SORT; -1: nobody's");
+    SnuffOfElsewhere x = of(0, 9, 19, 9, 28, 9, 36, 9, 47, 9, 15, 9);
+    for (int p = 0; p < 6; p++) {
+      for (int sort = 0; sort < 8; sort++) {
+        row(x, 0, 0, 10 * p + sort);
+        due("taken", x.evening(0, 0), 1);
+        due("sand", x.evening(0, 20 + p), 1 << sort);
+        due("wit", x.evening(0, 10 + p), Math.max(0, x.pinches(p, sort, 1)));
+      }
+    }
+    row(x, 0, 0, -1);
+    due("taken", x.evening(0, 0), 0);
+    for (int p = 0; p < 6; p++) due("sand", x.evening(0, 20 + p), 0);
+  }
+
   // ---- lots, images, sheets, refusals
 
   private static void lots() {
-    int[] six = {1, 9, 52, 9, 39, 9, 14, 9, 55, 9, 3, 9};
+    int[] six = {1, 9, 52, 9, 39, 9, 3, 9, 55, 9, 14, 9};
     says("the first is (SEED and 1) times 48271 modulo 2147483647, each further one the last times 48271 modulo 2147483647");
     for (int seed : new int[] {0, 1, 2, 44487, 44488, 99998, 99999}) {
       for (int n : new int[] {0, 1, 2, 40, 60}) {
@@ -798,6 +825,7 @@ public final class TermBoundaryTests extends Checks {
     texts();
     pinches();
     passing();
+    allPinches();
     lots();
     images();
     sheets();
