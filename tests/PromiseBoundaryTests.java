@@ -644,15 +644,15 @@ public final class PromiseBoundaryTests extends Checks {
     law(y, "gone 1 + (minute = sort);gains 0;spills 0;");
     due("the first by 2, then by 1", y.tour(0, 1), 9);
     SnuffOfElsewhere far = of(0, 9, 0, 9);
-    law(far, "gone 99;gains 0;spills 0;");
+    law(far, "gone 60;gains 0;spills 0;");
     for (int sort = 0; sort < 8; sort++) {
-      if (sort == 7) due("99 of 0", far.tour(0, 1), 99);
+      if (sort == 7) due("by the last one", far.tour(0, 1), 60);
       far.pinch(0, sort);
-      if (sort < 7) minutes(far, 99);
+      if (sort < 7) minutes(far, 60);
     }
-    due("till one is here", far.tour(0, 1), 99);
+    due("till one is here", far.tour(0, 1), 60);
     far.minute();
-    due("till one is here", far.tour(0, 1), 98);
+    due("till one is here", far.tour(0, 1), 59);
     due("of the other one", far.tour(1, 1), -1);
     says("(1; -1: as by what 0, one CAN'T then, not by 200). -5: none such; -7: what.");
     range("tour", 0, 0, 2, -5, 0, 0);

@@ -85,20 +85,6 @@ public final class PromiseTests extends Checks {
     due("order", x.text(), -107);
   }
 
-  private static void fault(String bytes, int place) {
-    SnuffOfElsewhere x = new SnuffOfElsewhere();
-    due(bytes, text(x, bytes), -100 - place);
-    due("the tape behind " + bytes, x.count(5), 0);
-    due("texts behind " + bytes, x.count(3), 1);
-  }
-
-  private static void stands(String bytes) {
-    SnuffOfElsewhere x = new SnuffOfElsewhere();
-    due(bytes, text(x, bytes), 1);
-    due("the tape behind " + bytes, x.count(5), 0);
-    due("texts behind " + bytes, x.count(3), 2);
-  }
-
   private static void p05Text() {
     stands("gone 1 ; gains 2 ; spills 3 ;");
     stands("gone 1;gains 2;spills 3;");
@@ -214,19 +200,6 @@ public final class PromiseTests extends Checks {
     due("as it was", x.count(4), 1);
     due("force 0", x.force(0), 1);
     due("force 6", x.force(6), BAD);
-  }
-
-  // What the E is worth by gains of one: grains 4, wit 30, sand 2, minute 17, more 6; of sort 5.
-  private static void worth(String e, int want) {
-    SnuffOfElsewhere x = of(6, 5);
-    x.pinch(0, 0);
-    for (int i = 0; i < 3; i++) x.minute();
-    x.pinch(0, 3);
-    x.put(0, 5, 4);
-    x.put(0, 8, 30);
-    x.clock(17);
-    law(x, "gone 1;gains " + e + ";spills 0;");
-    due(e, x.asks(1, 0, 5), want);
   }
 
   private static void p07Asks() {

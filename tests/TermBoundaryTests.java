@@ -164,29 +164,6 @@ public final class TermBoundaryTests extends Checks {
 
   // ---- the texts
 
-  private static void fault(String bytes, int place) {
-    SnuffOfElsewhere x = of();
-    due(bytes, text(x, bytes), -100 - place);
-    due(bytes + ": no text", x.count(3), 1);
-  }
-
-  private static void stands(String bytes) {
-    due(bytes, text(of(), bytes), 1);
-  }
-
-  // What gains says of a gentleman of MORE 6 and SORT 5: grains 4, wit 30, sand 0 and 3, minute 17.
-  private static void worth(String e, int want) {
-    SnuffOfElsewhere x = of(6, 5);
-    x.pinch(0, 0);
-    minutes(x, 3);
-    x.pinch(0, 3);
-    x.put(0, 5, 4);
-    x.put(0, 8, 30);
-    x.clock(17);
-    law(x, "gone 1;gains " + e + ";spills 0;");
-    due(e, x.asks(1, 0, 5), want);
-  }
-
   private static String ones(int n) {
     return "1" + "+1".repeat(n - 1);
   }

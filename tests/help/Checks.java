@@ -142,6 +142,35 @@ class Checks {
     return new int[] {wit, taken};
   }
 
+  // ---- texts
+
+  static void fault(String bytes, int place) {
+    SnuffOfElsewhere x = new SnuffOfElsewhere();
+    due(bytes, text(x, bytes), -100 - place);
+    due("the tape behind " + bytes, x.count(5), 0);
+    due("texts behind " + bytes, x.count(3), 1);
+  }
+
+  static void stands(String bytes) {
+    SnuffOfElsewhere x = new SnuffOfElsewhere();
+    due(bytes, text(x, bytes), 1);
+    due("the tape behind " + bytes, x.count(5), 0);
+    due("texts behind " + bytes, x.count(3), 2);
+  }
+
+  // What gains says of a gentleman of MORE 6 and SORT 5: grains 4, wit 30, sand 0 and 3, minute 17.
+  static void worth(String e, int want) {
+    SnuffOfElsewhere x = of(6, 5);
+    x.pinch(0, 0);
+    minutes(x, 3);
+    x.pinch(0, 3);
+    x.put(0, 5, 4);
+    x.put(0, 8, 30);
+    x.clock(17);
+    law(x, "gone 1;gains " + e + ";spills 0;");
+    due(e, x.asks(1, 0, 5), want);
+  }
+
   // ---- a scene for refusals
 
   // Three, one of them gone; a second text, half a third on the tape; an image of another minute; sheets:
